@@ -24,8 +24,8 @@ public final class AilingKing {
     private final Castle firstImage = new Castle();
     private final Castle secondImage = new Castle();
     private final Acts acts = new Acts();
-    private final Foretold foretold = new Foretold(now);
-    private final Asks asks = new Asks(now);
+    private final Foretold foretold = new Foretold();
+    private final Asks asks = new Asks();
     private int latestFault;
     private int latestFinding;
 
@@ -104,7 +104,8 @@ public final class AilingKing {
             latestFault = tape.fault;
             return FAULTS - tape.at;
         }
-        draft.beginEvenings();
+        // Nobody was ever invited into the draft: its evenings are still to begin.
+        draft.stands = true;
         now.become(draft);
         acts.forgetAll();
         return now.guests;
@@ -215,12 +216,12 @@ public final class AilingKing {
         if (now.stateOf(guest) == BEEN) {
             return STATE;
         }
-        foretold.measure(now.hintsAhead(guest), safe == 1);
+        foretold.measure(now, now.hintsAhead(guest), safe == 1);
         int fewest = foretold.fewestFrom(now.mind[guest], now.leftAhead(guest));
         if (fewest == NONE || k == -1) {
             return fewest;
         }
-        return k < fewest ? foretold.hintOfRoute(guest, fewest, k) : NONE;
+        return k < fewest ? foretold.hintOfRoute(now, guest, fewest, k) : NONE;
     }
 
     public int thinkable(int guest) {
@@ -230,7 +231,7 @@ public final class AilingKing {
         if (now.stateOf(guest) == BEEN) {
             return STATE;
         }
-        return foretold.thoughtsWithin(now.mind[guest], now.hintsAhead(guest), now.leftAhead(guest));
+        return Foretold.thoughtsWithin(now, now.mind[guest], now.hintsAhead(guest), now.leftAhead(guest));
     }
 
     public int chance(int guest, int n, int what) {
@@ -264,7 +265,7 @@ public final class AilingKing {
         if (!isBelow(what, 2)) {
             return BAD;
         }
-        return foretold.bestOf(what == 0);
+        return foretold.bestOf(now, what == 0);
     }
 
     public int cover(int what) {
@@ -274,7 +275,7 @@ public final class AilingKing {
         if (!isBelow(what, 2)) {
             return BAD;
         }
-        int hints = foretold.fewestForAll();
+        int hints = foretold.fewestForAll(now);
         return hints == NONE || what == 1 ? hints : Integer.bitCount(hints);
     }
 
@@ -285,7 +286,7 @@ public final class AilingKing {
         if (!isBelow(what, 2)) {
             return BAD;
         }
-        return foretold.mostMissed(what == 0);
+        return foretold.mostMissed(now, what == 0);
     }
 
     public int nearly(int row, int i, int n) {
@@ -306,7 +307,7 @@ public final class AilingKing {
                 return BAD;
             }
         }
-        return foundNothing(foretold.wouldAskButFear(rows, row, i, n));
+        return foundNothing(Foretold.wouldAskButFear(now, rows, row, i, n));
     }
 
     public int image(int k) {
@@ -352,7 +353,7 @@ public final class AilingKing {
         if (!now.isHint(hint) || !isBelow(what, 2)) {
             return BAD;
         }
-        return asks.answer(hint, what);
+        return asks.answer(now, hint, what);
     }
 
     public int trace(int i) {
@@ -531,7 +532,6 @@ public final class AilingKing {
 
         boolean tells(Castle castle) {
             at = 0;
-            fault = 0;
             return tellsLaw(castle) && tellsHints(castle) && tellsGuests(castle)
                     && (at == length || isFaulty(CANNOT_STAND));
         }
@@ -673,16 +673,7 @@ public final class AilingKing {
         int worse;
         boolean healed;
 
-        void beginEvenings() {
-            stands = true;
-            here = NOBODY;
-            been = 0;
-            tonight = 0;
-            worse = 0;
-            healed = false;
-            for (int h = 0; h < MOST_HINTS; h++) {
-                shown[h] = 0;
-            }
+        Castle() {
             for (int g = 0; g < MOST_GUESTS; g++) {
                 asked[g] = NONE;
             }
@@ -751,7 +742,7 @@ public final class AilingKing {
             tonight &= ~(1 << h);
         }
 
-        /** Nothing counts as shown tonight when nobody is here, so the evening ends with it. */
+        /** Nothing counts as shown tonight when nobody is here, so tonight is emptied as the guest leaves. */
         void hear(int g) {
             int thought = mind[g];
             if (dares(g) && (thought == question || thought == wrong)) {
@@ -786,7 +777,7 @@ public final class AilingKing {
 
         /** The thoughts (bits) from which a hint leads to FROM. */
         int back(int h) {
-            return isOneOf(sort[h], MISTAKEN) ? 1 << to[h] : 0;
+            return sort[h] == MISTAKEN || sort[h] == DOUBLE ? 1 << to[h] : 0;
         }
 
         int ledFrom(int thought, int h, int before) {
@@ -817,6 +808,17 @@ public final class AilingKing {
                 }
             }
             return thoughts;
+        }
+
+        /** How many of those who are to come think of one of these. */
+        int toComeWith(int thoughts) {
+            int many = 0;
+            for (int g = 0; g < guests; g++) {
+                if (stateOf(g) == TO_COME && has(thoughts, mind[g])) {
+                    many++;
+                }
+            }
+            return many;
         }
     }
 
@@ -856,25 +858,21 @@ public final class AilingKing {
      * no hint twice either: it is enough to look at thoughts, without the rows of hints.
      */
     private static final class Foretold {
-        private final Castle castle;
         /** near[k]: the thoughts (bits) from which k hints, or fewer, lead to the question. */
         private final int[] near = new int[MOST_LIMIT + 1];
         private int allowed;
 
-        Foretold(Castle castle) {
-            this.castle = castle;
-        }
-
-        void measure(int hints, boolean safe) {
+        /** Fills near up to LIMIT, with ways of these hints alone. */
+        void measure(Castle castle, int hints, boolean safe) {
             int shunned = safe ? 1 << castle.wrong : 0;
             allowed = hints;
             near[0] = 1 << castle.question;
-            for (int k = 1; k <= MOST_LIMIT; k++) {
-                near[k] = leadingInto(near[k - 1]) & ~shunned;
+            for (int k = 1; k <= castle.limit && k < near.length; k++) {
+                near[k] = leadingInto(castle, near[k - 1]) & ~shunned;
             }
         }
 
-        private int leadingInto(int goal) {
+        private int leadingInto(Castle castle, int goal) {
             int thoughts = goal;
             for (int h = 0; h < castle.hints; h++) {
                 if (has(allowed, h)) {
@@ -886,7 +884,7 @@ public final class AilingKing {
         }
 
         int fewestFrom(int thought, int most) {
-            for (int k = 0; k <= MOST_LIMIT && k <= most; k++) {
+            for (int k = 0; k <= most && k < near.length; k++) {
                 if (has(near[k], thought)) {
                     return k;
                 }
@@ -894,11 +892,11 @@ public final class AilingKing {
             return NONE;
         }
 
-        int hintOfRoute(int guest, int fewest, int k) {
+        int hintOfRoute(Castle castle, int guest, int fewest, int k) {
             int thought = castle.mind[guest];
             int hint = NONE;
             for (int step = 0; step <= k && step < fewest; step++) {
-                hint = firstNearer(thought, fewest - step - 1);
+                hint = firstNearer(castle, thought, fewest - step - 1);
                 if (hint == NONE) {
                     return NONE;
                 }
@@ -907,7 +905,7 @@ public final class AilingKing {
             return hint;
         }
 
-        private int firstNearer(int thought, int left) {
+        private int firstNearer(Castle castle, int thought, int left) {
             for (int h = 0; h < castle.hints; h++) {
                 if (has(allowed, h) && has(near[left], castle.ledFrom(thought, h, castle.shown[h]))) {
                     return h;
@@ -916,7 +914,7 @@ public final class AilingKing {
             return NONE;
         }
 
-        int thoughtsWithin(int thought, int hints, int most) {
+        static int thoughtsWithin(Castle castle, int thought, int hints, int most) {
             int thoughts = 1 << thought;
             for (int k = 0; k < most; k++) {
                 int further = thoughts;
@@ -946,10 +944,10 @@ public final class AilingKing {
             return many;
         }
 
-        int bestOf(boolean who) {
+        int bestOf(Castle castle, boolean who) {
             int best = NONE;
             int itsFewest = NONE;
-            measure(castle.allHints(), false);
+            measure(castle, castle.allHints(), false);
             for (int g = 0; g < castle.guests; g++) {
                 int fewest = fewestFrom(castle.mind[g], castle.limit);
                 boolean mayAsk = castle.stateOf(g) == TO_COME && castle.dares(g) && fewest != NONE;
@@ -962,28 +960,35 @@ public final class AilingKing {
         }
 
         /** Hints, as bits; the least of several, since they are gone through from the least on. */
-        int fewestForAll() {
+        int fewestForAll(Castle castle) {
             int wanted = castle.thoughtsToCome();
             int best = NONE;
+            if (!haveRoute(castle, wanted, castle.allHints())) {
+                return NONE;
+            }
             for (int hints = 0; hints <= castle.allHints(); hints++) {
                 boolean fewer = best == NONE || Integer.bitCount(hints) < Integer.bitCount(best);
-                if (fewer && (wanted & ~thoughtsWithRoute(hints)) == 0) {
+                if (fewer && haveRoute(castle, wanted, hints)) {
                     best = hints;
                 }
             }
             return best;
         }
 
-        private int thoughtsWithRoute(int hints) {
-            measure(hints, false);
+        private boolean haveRoute(Castle castle, int thoughts, int hints) {
+            return (thoughts & ~thoughtsWithRoute(castle, hints)) == 0;
+        }
+
+        private int thoughtsWithRoute(Castle castle, int hints) {
+            measure(castle, hints, false);
             return isBelow(castle.limit, near.length) ? near[castle.limit] : 0;
         }
 
-        int mostMissed(boolean which) {
+        int mostMissed(Castle castle, boolean which) {
             int worst = NONE;
             int haveThen = NONE;
             for (int h = 0; h < castle.hints; h++) {
-                int have = withThoughtIn(thoughtsWithRoute(castle.allHints() & ~(1 << h)));
+                int have = castle.toComeWith(thoughtsWithRoute(castle, castle.allHints() & ~(1 << h)));
                 if (worst == NONE || have < haveThen) {
                     worst = h;
                     haveThen = have;
@@ -992,29 +997,18 @@ public final class AilingKing {
             return which ? worst : haveThen;
         }
 
-        /** How many of those who are to come think of one of these. */
-        private int withThoughtIn(int thoughts) {
-            int many = 0;
-            for (int g = 0; g < castle.guests; g++) {
-                if (castle.stateOf(g) == TO_COME && has(thoughts, castle.mind[g])) {
-                    many++;
-                }
-            }
-            return many;
-        }
-
-        int wouldAskButFear(Rows rows, int row, int i, int n) {
+        static int wouldAskButFear(Castle castle, Rows rows, int row, int i, int n) {
             int guests = 0;
             for (int g = 0; g < castle.guests; g++) {
                 if (castle.stateOf(g) == TO_COME && !castle.dares(g)
-                        && afterRow(castle.mind[g], rows, row, i, n) == castle.question) {
+                        && afterRow(castle, castle.mind[g], rows, row, i, n) == castle.question) {
                     guests |= 1 << g;
                 }
             }
             return guests;
         }
 
-        private int afterRow(int thought, Rows rows, int row, int i, int n) {
+        private static int afterRow(Castle castle, int thought, Rows rows, int row, int i, int n) {
             int then = thought;
             for (int j = 0; j < n; j++) {
                 int hint = rows.itemOf(row, i + j);
@@ -1037,17 +1031,13 @@ public final class AilingKing {
     private static final class Asks {
         /** More than any ask needs: five bodies at most are open at once. */
         private static final int DEEPEST = 8;
-        private final Castle castle;
         final int[] begun = new int[MOST_TRACE];
         int length;
 
-        Asks(Castle castle) {
-            this.castle = castle;
-        }
-
-        int answer(int hint, int what) {
+        int answer(Castle castle, int hint, int what) {
+            int kind = castle.sort[hint];
             length = 0;
-            return given(this, what == 0 ? sizeBody(castle.sort[hint]) : markBody(castle.sort[hint]), hint, 0);
+            return given(this, castle, what == 0 ? sizeBody(kind) : markBody(kind), hint, 0);
         }
 
         private static int sizeBody(int kind) {
@@ -1079,24 +1069,26 @@ public final class AilingKing {
             }
         }
 
-        /** What a body gives. */
-        private static int given(Asks asks, int body, int hint, int depth) {
+        /** What a body gives; SIZE and MARK within it begin with the body of the hint's own kind. */
+        private static int given(Asks asks, Castle castle, int body, int hint, int depth) {
             if (depth >= DEEPEST) {
                 return 0;
             }
-            int kind = asks.castle.sort[hint];
+            int kind = castle.sort[hint];
             asks.leave(body);
             switch (body) {
-                case 10: return asks.castle.shown[hint];
-                case 11: return given(asks, 10, hint, depth + 1) + given(asks, markBody(kind), hint, depth + 1);
-                case 12: return -given(asks, 11, hint, depth + 1);
-                case 13: return given(asks, 10, hint, depth + 1) - 100;
-                case 14: return 2 * given(asks, 13, hint, depth + 1);
+                case 10: return castle.shown[hint];
+                case 11: return given(asks, castle, 10, hint, depth + 1)
+                        + given(asks, castle, markBody(kind), hint, depth + 1);
+                case 12: return -given(asks, castle, 11, hint, depth + 1);
+                case 13: return given(asks, castle, 10, hint, depth + 1) - 100;
+                case 14: return 2 * given(asks, castle, 13, hint, depth + 1);
                 case 20: return hint;
-                case 21: return given(asks, 20, hint, depth + 1) + asks.castle.from[hint];
-                case 22: return given(asks, 21, hint, depth + 1) - 1000;
-                case 23: return given(asks, 20, hint, depth + 1) - given(asks, sizeBody(kind), hint, depth + 1);
-                case 24: return 2 * given(asks, 21, hint, depth + 1);
+                case 21: return given(asks, castle, 20, hint, depth + 1) + castle.from[hint];
+                case 22: return given(asks, castle, 21, hint, depth + 1) - 1000;
+                case 23: return given(asks, castle, 20, hint, depth + 1)
+                        - given(asks, castle, sizeBody(kind), hint, depth + 1);
+                case 24: return 2 * given(asks, castle, 21, hint, depth + 1);
                 default: return 0;
             }
         }

@@ -225,6 +225,7 @@ public final class ForetoldTest {
         cover(Due.castle("k7,6,1;s1,0;s0,7;n0,0,0;n5,0,0;", 2), Due.NONE, Due.NONE);
         cover(Due.castle("k7,6,1;n7,0,0;", 1), 0, 0);
         cover(Due.castle("k7,6,1;", 0), 0, 0);
+        cover(Due.castle("k7,6,2;s0,6;s6,7;n0,9,0;", 1), 2, 3);
         AilingKing worn = Due.castle("k7,6,1;w0,7;s0,7;n0,9,0;n0,9,0;n0,9,0;", 3);
         for (int g = 0; g < 2; g++) {
             cover(worn, 1, 1);
@@ -253,6 +254,7 @@ public final class ForetoldTest {
         spoilt(x, 2, 1);
         spoilt(Due.castle("k7,6,2;n7,0,0;", 1), Due.NONE, Due.NONE);
         spoilt(Due.castle("k7,6,2;s0,1;", 0), 0, 0);
+        spoilt(Due.castle("k7,6,2;s3,7;s0,6;s6,7;n0,0,0;n6,0,0;n3,0,0;", 3), 2, 1);
         spoilt(Due.castle("k7,6,2;s0,1;s0,7;n0,0,0;n7,0,0;", 2), 1, 1);
         spoilt(Due.castle("k7,6,1;s1,2;s2,7;s1,7;n1,0,0;", 1), 2, 0);
     }

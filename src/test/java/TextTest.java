@@ -126,12 +126,14 @@ public final class TextTest {
 
     /** Of a text with one byte in a place of its own; the few that may stand there are passed over. */
     private static void everyByteInEveryPlace() {
-        String[] heads = {"", "k", "k0", "k0,", "k0,1", "k0,1,", "k0,1,1", "k0,1,1;", "k0,1,1;s", "k0,1,1;n1", "k0,1,1;n1,10"};
+        String[] heads = {"", "k", "k0", "k0,", "k0,1", "k0,1,", "k0,1,1", "k0,1,1;", "k0,1,1;s", "k0,1,1;n1",
+            "k0,1,1;n1,10"};
         String[] may = {"k", "0-7", ",0-9", "0-7", ",0-9", "0-9", ";0-9", "sgwmdn", "0-9", ",0-9", ",0-9"};
         for (int h = 0; h < heads.length; h++) {
             for (char letter = 0; letter < 256; letter++) {
                 boolean isFigure = letter >= '0' && letter <= '9';
-                boolean passedOver = may[h].indexOf(letter) >= 0 && letter != '-' || isFigure && may[h].indexOf('-') >= 0;
+                boolean isOther = letter != '-' && may[h].indexOf(letter) >= 0;
+                boolean passedOver = isOther || isFigure && may[h].indexOf('-') >= 0;
                 if (!passedOver) {
                     fault(heads[h] + letter, heads[h].length(), 1);
                 }
