@@ -12,6 +12,7 @@ public final class TextTest {
         everyTextCutShort();
         everyByteInEveryPlace();
         whatAFaultLeaves();
+        onlyTheTapeIsRead();
         whatANewCastleLeaves();
         Due.finish();
     }
@@ -164,6 +165,16 @@ public final class TextTest {
         Due.feed(x, "k0,1,1;");
         Due.due("a castle", x.castle(), 0);
         Due.due("the latest fault is told yet", x.fault(), 2);
+    }
+
+    private static void onlyTheTapeIsRead() {
+        AilingKing x = new AilingKing();
+        Due.feed(x, "k00,01,05;");
+        Due.due("a castle", x.castle(), 0);
+        Due.feed(x, "k0");
+        Due.due("figures of the tape before do not count", x.castle(), -1000102);
+        Due.feed(x, "k00,01,05");
+        Due.due("nor does its last sign", x.castle(), -1000109);
     }
 
     private static void whatANewCastleLeaves() {
