@@ -64,7 +64,7 @@ public final class RowsTest {
         onlyZeros();
     }
 
-    /** Items can be seen through nearly alone, with a castle whose every hint leads on from another thought. */
+    /** An item of a row of a seer. */
     private static int item(AilingKing x, int row, int i) {
         int seen = x.nearly(row, i, 1);
         for (int h = 0; h < 6; h++) {
@@ -75,12 +75,8 @@ public final class RowsTest {
         return seen;
     }
 
-    private static AilingKing seer() {
-        return Due.castle("k7,6,5;s0,7;s1,7;s2,7;s3,7;s4,7;s5,7;n0,1,0;n1,1,0;n2,1,0;n3,1,0;n4,1,0;n5,1,0;", 6);
-    }
-
     private static void onlyZeros() {
-        AilingKing x = seer();
+        AilingKing x = Due.seer();
         x.row(0, 1, 40);
         for (int i = 0; i < 40; i++) {
             Due.due("0 at first", item(x, 0, i), 0);
@@ -114,7 +110,7 @@ public final class RowsTest {
     }
 
     private static void copyMoves() {
-        AilingKing x = seer();
+        AilingKing x = Due.seer();
         x.row(0, 0, 6);
         x.row(1, 0, 6);
         for (int i = 0; i < 6; i++) {
