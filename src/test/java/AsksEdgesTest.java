@@ -238,6 +238,10 @@ public final class AsksEdgesTest {
         x.drop(0);
         x.cover(0);
         x.leads(0, 0);
+        x.image(1);
+        x.restore(1);
+        Due.feed(x, "k7,6,5;");
+        x.castle();
         Due.due("the first", x.trace(0), 21);
         Due.due("the last", x.trace(1), 20);
         Due.due("no more", x.trace(2), Due.NONE);

@@ -392,6 +392,11 @@ public final class RowsEdgesTest {
             x.castle();
             x.count(0);
             x.restore(0);
+            x.image(0);
+            x.restore(0);
+            Due.feed(x, "k7,6,5;");
+            x.castle();
+            x.cover(0);
             Due.due("no call with a ROW", x.status(), finding);
         }
         AilingKing none = new AilingKing();

@@ -18,6 +18,7 @@ public final class UndoEdgesTest {
         restoreRefusals();
         imagesAreKeptApart();
         imageOfAnEvening();
+        imageOfAllThereCanBe();
         call512();
         Due.finish();
     }
@@ -342,6 +343,30 @@ public final class UndoEdgesTest {
         Due.due("nobody", x.count(3), -1);
         Due.due("asked", x.guest(0, 4), 3);
         Due.due("nobody is invited", x.invite(2), Due.STATE);
+    }
+
+    private static void imageOfAllThereCanBe() {
+        Due.sentence("The CASTLE is as an IMAGE kept it: 8 HINTS, 6 GUESTS");
+        String hints = "s0,1;s0,1;s0,1;s0,1;s0,1;s0,1;s0,1;g6,4;";
+        AilingKing x = Due.castle("k3,4,5;" + hints + "n0,0,0;n0,0,0;n0,0,0;n0,0,0;n0,0,0;n6,3,2;", 6);
+        x.tale(5, 9);
+        x.invite(5);
+        x.show(7);
+        x.speak();
+        x.image(0);
+        Due.feed(x, "k0,1,1;m1,2;n1,1,1;");
+        Due.due("another castle", x.castle(), 1);
+        x.restore(0);
+        int[] answers = {x.count(1), x.count(2), x.kind(7), x.hint(7, 0), x.hint(7, 1), x.hint(7, 2), x.hint(6, 2),
+            x.guest(5, 0), x.guest(5, 1), x.guest(5, 2), x.guest(5, 3), x.guest(5, 4), x.guest(4, 4), x.count(5)};
+        int[] due = {8, 6, 2, 6, 4, 1, 0, 4, 3, 11, 2, 4, Due.NONE, 1};
+        for (int i = 0; i < due.length; i++) {
+            Due.due("answer " + i, answers[i], due[i]);
+        }
+        Due.feed(x, "k3,4,5;" + hints + "n0,0,0;n0,0,0;n0,0,0;n0,0,0;n0,0,0;n6,3,2;");
+        Due.due("read anew", x.castle(), 6);
+        Due.due("not SHOWN", x.hint(7, 2), 0);
+        Due.due("nothing so far", x.guest(5, 4), Due.NONE);
     }
 
     private static void call512() {
